@@ -286,7 +286,7 @@ public final class QuickestOut {
         int good = begins;
         int bad = LATEST_BEGIN + 1;
         // To begin later never lets anybody be safe sooner, so halving finds the last good one.
-        while (bad - good > 1) {
+        for (int n = 0; n < LATEST_BEGIN && bad - good > 1; n++) {
             int middle = (good + bad) / 2;
             town.change(place, BEGINS, middle);
             if (network.allSafeBy(quick)) {
@@ -326,7 +326,7 @@ public final class QuickestOut {
         int bad = 0;
         int good = MOST_EXTRA_LANES;
         // More lanes never hinder, so halving finds the fewest.
-        while (good - bad > 1) {
+        for (int n = 0; n < MOST_EXTRA_LANES && good - bad > 1; n++) {
             int middle = (good + bad) / 2;
             if (allSafeWith(way, middle, t)) {
                 good = middle;
@@ -721,7 +721,13 @@ public final class QuickestOut {
             int moves = plan.moves;
             System.arraycopy(town.lanes, 0, lanesBefore, 0, WAYS);
             faultTold = 0;
-            int statements = readStatements();
+            next = 0;
+            int statements = 0;
+            readToken();
+            while (statements <= TAPE && kind != END && readStatement()) {
+                statements++;
+                readToken();
+            }
             length = 0;
             if (faultTold == 0) {
                 return statements;
@@ -731,17 +737,6 @@ public final class QuickestOut {
             plan.moves = moves;
             System.arraycopy(lanesBefore, 0, town.lanes, 0, WAYS);
             return NONE;
-        }
-
-        private int readStatements() {
-            next = 0;
-            int statements = 0;
-            readToken();
-            while (statements <= TAPE && kind != END && readStatement()) {
-                statements++;
-                readToken();
-            }
-            return statements;
         }
 
         private boolean readStatement() {
@@ -974,7 +969,11 @@ public final class QuickestOut {
 
         /** QUICKEST, if it is less than that; that, if not. */
         int soonerThan(int that) {
-            return that > 0 && allSafeBy(that - 1) ? soonest() : that;
+            if (that == 0) {
+                return 0;
+            }
+            fillUpTo(that - 1);
+            return safeNow == people ? soonest() : that;
         }
 
         void findOpen(int t) {
@@ -990,7 +989,7 @@ public final class QuickestOut {
          * Not all can be safe by t: finds where they can't get through, and answers how many are
          * too many. Without so many more across, at any ways, no change of lanes lets all through.
          */
-        int findNarrow(int t) {
+        int squeeze(int t) {
             fillUpTo(t);
             for (int way = 0; way < 2 * town.roads; way++) {
                 crossing[way] = countCrossing(way, t);
@@ -1142,7 +1141,7 @@ public final class QuickestOut {
         private int fillPath(int depth) {
             int many = people;
             for (int i = 0; i < depth; i++) {
-                many = Math.min(many, spare[row[i]]);
+                many = spare[row[i]] < many ? spare[row[i]] : many;
             }
             int full = 0;
             for (int i = depth - 1; i >= 0; i--) {
@@ -1183,26 +1182,29 @@ public final class QuickestOut {
             startAsItIs();
             int asItIs = quick;
             for (int size = 1; size <= MOST_LANES && quick > 0; size++) {
-                for (int tried = 0; tried < town.roads; tried++) {
-                    tryTurn(tried, size);
-                    tryTurn(tried, -size);
+                for (int tried = 0; tried < 2 * town.roads; tried++) {
+                    if (tryTurn(tried / 2, tried % 2 == 0 ? size : -size)) {
+                        findNarrow();
+                    }
                 }
             }
             return quick < asItIs;
         }
 
-        private void tryTurn(int tried, int lanes) {
+        private boolean tryTurn(int tried, int lanes) {
             if (!town.turnFits(tried, lanes) || network.crossingMore(tried, lanes) < tooMany) {
-                return;
+                return false;
             }
             town.shiftLanes(tried, lanes);
             int found = network.soonerThan(quick);
             town.shiftLanes(tried, -lanes);
-            if (found < quick) {
-                road = tried;
-                k = lanes;
-                startBelow(found);
+            if (found == quick) {
+                return false;
             }
+            quick = found;
+            road = tried;
+            k = lanes;
+            return true;
         }
 
         /** Tries rows, those with fewest turned first, then the least, so that only a quicker one counts. */
@@ -1212,8 +1214,8 @@ public final class QuickestOut {
             startAsItIs();
             for (int notZero = 1; notZero <= chosen; notZero++) {
                 for (int tried = 1; tried < rows && quick > 0; tried++) {
-                    if (digitsNotZero(tried) == notZero) {
-                        tryRow(tried);
+                    if (digitsNotZero(tried) == notZero && tryRow(tried)) {
+                        findNarrow();
                     }
                 }
             }
@@ -1244,7 +1246,7 @@ public final class QuickestOut {
             return notZero;
         }
 
-        private void tryRow(int tried) {
+        private boolean tryRow(int tried) {
             System.arraycopy(town.lanes, 0, lanesBefore, 0, WAYS);
             int more = 0;
             int rest = tried;
@@ -1254,10 +1256,12 @@ public final class QuickestOut {
             }
             int found = more < tooMany ? quick : network.soonerThan(quick);
             System.arraycopy(lanesBefore, 0, town.lanes, 0, WAYS);
-            if (found < quick) {
-                row = tried;
-                startBelow(found);
+            if (found == quick) {
+                return false;
             }
+            quick = found;
+            row = tried;
+            return true;
         }
 
         /** Turns a road as the digit says; how many more could cross the narrow by that. */
@@ -1273,13 +1277,13 @@ public final class QuickestOut {
         private void startAsItIs() {
             road = NONE;
             k = 0;
-            startBelow(network.soonest());
+            quick = network.soonest();
+            findNarrow();
         }
 
-        /** From now on only what is quicker than that counts; what can't get through the narrow is not tried. */
-        private void startBelow(int that) {
-            quick = that;
-            tooMany = that > 0 ? network.findNarrow(that - 1) : 1;
+        /** From now on only what is quicker counts; what can't get through the narrow is not tried. */
+        private void findNarrow() {
+            tooMany = quick > 0 ? network.squeeze(quick - 1) : 1;
         }
     }
 }
