@@ -199,7 +199,7 @@ public final class QuickestOut {
     // ---- what would be
 
     public int shut(int road) {
-        return town.hasRoad(road) ? told(soonestWithout(road)) : NO_SUCH;
+        return town.hasRoad(road) ? told(soonestWithout(road, 0)) : NO_SUCH;
     }
 
     public int wider(int road, boolean back, int k) {
@@ -261,10 +261,10 @@ public final class QuickestOut {
         }
         int found = 0;
         int least = NEVER;
-        for (int place = 0; place < town.places; place++) {
+        for (int place = 0; place < town.places && least > 0; place++) {
             int room = town.fact(place, ROOM);
             town.change(place, ROOM, Math.min(MOST_ROOM, room + k));
-            int quick = network.soonerThan(least);
+            int quick = network.allSafeBy(least - 1) ? network.soonestWithin(0, least) : least;
             town.change(place, ROOM, room);
             if (quick < least) {
                 least = quick;
@@ -300,10 +300,13 @@ public final class QuickestOut {
     }
 
     public int worst() {
-        int found = NO_SUCH;
-        int greatest = NONE;
+        if (town.roads == 0) {
+            return NO_SUCH;
+        }
+        int found = 0;
+        int greatest = network.soonest();
         for (int road = 0; road < town.roads && greatest < NEVER; road++) {
-            int quick = soonestWithout(road);
+            int quick = soonestWithout(road, greatest);
             if (quick > greatest) {
                 greatest = quick;
                 found = road;
@@ -387,12 +390,13 @@ public final class QuickestOut {
         return back ? 2 * road + 1 : 2 * road;
     }
 
-    private int soonestWithout(int road) {
+    /** QUICKEST without a road, if it is more than that; that, if not. */
+    private int soonestWithout(int road, int that) {
         int there = town.lanes[2 * road];
         int back = town.lanes[2 * road + 1];
         town.lanes[2 * road] = 0;
         town.lanes[2 * road + 1] = 0;
-        int quick = network.soonest();
+        int quick = network.soonestWithin(that, NEVER);
         town.lanes[2 * road] = there;
         town.lanes[2 * road + 1] = back;
         return quick;
@@ -931,11 +935,12 @@ public final class QuickestOut {
         private final int[] after = new int[ARCS];
         private final int[] leadsTo = new int[ARCS];
         private final int[] spare = new int[ARCS];
-        /** How many arcs with something spare lead to the sink; NONE if it can't be reached. */
+        /** How many arcs, all with something spare, lead to the sink; NONE: none do, or it was not looked for. */
         private final int[] toSink = new int[NODES];
         private final int[] trying = new int[NODES];
         private final int[] row = new int[NODES];
         private final int[] crossing = new int[WAYS];
+        private final int[] toShelter = new int[PLACES];
 
         Network(Town town) {
             this.town = town;
@@ -947,38 +952,36 @@ public final class QuickestOut {
         }
 
         boolean allSafeBy(int t) {
+            if (leastThinkable() > t) {
+                return false;
+            }
             fillUpTo(t);
             return safeNow == people;
         }
 
         /** QUICKEST; NEVER: by none. */
         int soonest() {
-            begin();
-            if (people > town.total(ROOM)) {
-                return NEVER;
+            return soonestWithin(0, NEVER);
+        }
+
+        /** QUICKEST, but least, if it is less than that, and bound, if it is not less than that. */
+        int soonestWithin(int least, int bound) {
+            int from = Math.max(least, leastThinkable());
+            if (from >= bound) {
+                return bound;
             }
-            for (int t = 0; t <= LAST_T; t++) {
+            fillUpTo(from);
+            for (int t = from + 1; t < bound && safeNow < people; t++) {
                 addMinute();
                 push();
-                if (safeNow == people) {
-                    return t;
-                }
             }
-            return NEVER;
+            return safeNow == people ? last : bound;
         }
 
-        /** QUICKEST, if it is less than that; that, if not. */
-        int soonerThan(int that) {
-            if (that == 0) {
-                return 0;
-            }
-            fillUpTo(that - 1);
-            return safeNow == people ? soonest() : that;
-        }
-
+        /** Finds out from where one more could get through by t. */
         void findOpen(int t) {
             fillUpTo(t);
-            measure(NONE);
+            reachSource();
         }
 
         boolean isOpen(int place, int minute) {
@@ -987,7 +990,7 @@ public final class QuickestOut {
 
         /**
          * Not all can be safe by t: finds where they can't get through, and answers how many are
-         * too many. Without so many more across, at any ways, no change of lanes lets all through.
+         * too many. Unless so many more can cross there, no change of lanes lets all through.
          */
         int squeeze(int t) {
             fillUpTo(t);
@@ -997,7 +1000,7 @@ public final class QuickestOut {
             return people - safeNow;
         }
 
-        /** How many more could cross the narrow, were k lanes of a road turned. */
+        /** How many more could cross where it is narrow, were k lanes of a road turned. */
         int crossingMore(int road, int k) {
             return k * (crossing[2 * road] - crossing[2 * road + 1]);
         }
@@ -1011,6 +1014,36 @@ public final class QuickestOut {
                 }
             }
             return minutes;
+        }
+
+        /** QUICKEST, had every road lanes for all and every shelter room for all: it can't be less. */
+        private int leastThinkable() {
+            if (town.total(PEOPLE) > town.total(ROOM)) {
+                return NEVER;
+            }
+            measureRoads();
+            int least = 0;
+            for (int place = 0; place < town.places; place++) {
+                if (town.fact(place, PEOPLE) > 0) {
+                    least = Math.max(least, town.fact(place, BEGINS) + toShelter[place]);
+                }
+            }
+            return Math.min(least, NEVER);
+        }
+
+        private void measureRoads() {
+            for (int place = 0; place < town.places; place++) {
+                toShelter[place] = town.fact(place, ROOM) > 0 ? 0 : NEVER;
+            }
+            for (int round = 1; round < town.places; round++) {
+                for (int way = 0; way < 2 * town.roads; way++) {
+                    int from = town.starts[way];
+                    int minutes = town.minutes[way / 2] + toShelter[town.starts[way ^ 1]];
+                    if (town.lanes[way] > 0 && minutes < toShelter[from]) {
+                        toShelter[from] = minutes;
+                    }
+                }
+            }
         }
 
         private void fillUpTo(int t) {
@@ -1035,20 +1068,20 @@ public final class QuickestOut {
 
         private void addMinute() {
             last++;
+            int now = last * PLACES;
             for (int place = 0; place < town.places; place++) {
-                int here = last * PLACES + place;
-                if (last >= town.fact(place, BEGINS)) {
-                    join(HOMES + place, here, town.fact(place, PEOPLE));
-                }
+                join(now + place, SHELTERS + place, town.fact(place, ROOM));
                 if (last > 0) {
-                    join(here - PLACES, here, town.fact(place, HOLD));
+                    join(now - PLACES + place, now + place, town.fact(place, HOLD));
                 }
-                join(here, SHELTERS + place, town.fact(place, ROOM));
+                if (last >= town.fact(place, BEGINS)) {
+                    join(HOMES + place, now + place, town.fact(place, PEOPLE));
+                }
             }
             for (int way = 0; way < 2 * town.roads; way++) {
-                int out = last - town.minutes[way / 2];
-                if (out >= 0) {
-                    join(out * PLACES + town.starts[way], last * PLACES + town.starts[way ^ 1], town.lanes[way]);
+                int takes = town.minutes[way / 2];
+                if (last >= takes) {
+                    join(now - takes * PLACES + town.starts[way], now + town.starts[way ^ 1], town.lanes[way]);
                 }
             }
         }
@@ -1070,38 +1103,35 @@ public final class QuickestOut {
 
         /** Lets as many more through as can be. */
         private void push() {
-            for (int round = 0; round < FAR_MORE && safeNow < people && measure(SOURCE); round++) {
-                pushShortest();
+            for (int round = 0; round < FAR_MORE && safeNow < people && reachSource(); round++) {
+                fillPaths();
             }
         }
 
-        /** Measures from the sink till the goal is reached (NONE: all there is); whether it was. */
-        private boolean measure(int goal) {
+        /** Goes from the sink back till the source is reached; false: all from where the sink can be reached is marked. */
+        private boolean reachSource() {
             Arrays.fill(toSink, NONE);
             toSink[SINK] = 0;
             row[0] = SINK;
             int found = 1;
-            for (int i = 0; i < found; i++) {
+            for (int i = 0; i < found && toSink[SOURCE] == NONE; i++) {
                 int node = row[i];
                 int arc = first[node];
                 for (int n = 0; n < ARCS && arc != NONE; n++) {
-                    int other = leadsTo[arc];
-                    if (spare[arc ^ 1] > 0 && toSink[other] == NONE) {
-                        toSink[other] = toSink[node] + 1;
-                        if (other == goal) {
-                            return true;
-                        }
-                        row[found] = other;
+                    int from = leadsTo[arc];
+                    if (spare[arc ^ 1] > 0 && toSink[from] == NONE) {
+                        toSink[from] = toSink[node] + 1;
+                        row[found] = from;
                         found++;
                     }
                     arc = after[arc];
                 }
             }
-            return false;
+            return toSink[SOURCE] != NONE;
         }
 
-        /** Fills all shortest paths; row holds the arcs of the path that is being tried. */
-        private void pushShortest() {
+        /** Fills all shortest paths; row holds the arcs of the one that is being tried. */
+        private void fillPaths() {
             System.arraycopy(first, 0, trying, 0, NODES);
             int node = SOURCE;
             int depth = 0;
@@ -1127,8 +1157,9 @@ public final class QuickestOut {
 
         private int arcNearer(int node) {
             int arc = trying[node];
+            int nearer = toSink[node] - 1;
             for (int n = 0; n < ARCS && arc != NONE; n++) {
-                if (spare[arc] > 0 && toSink[leadsTo[arc]] == toSink[node] - 1 && toSink[node] > 0) {
+                if (spare[arc] > 0 && toSink[leadsTo[arc]] == nearer) {
                     break;
                 }
                 arc = after[arc];
@@ -1137,7 +1168,7 @@ public final class QuickestOut {
             return arc;
         }
 
-        /** Fills the path in row; answers at which depth it is full now. */
+        /** Fills the path with as many as it takes; answers where its first full arc is. */
         private int fillPath(int depth) {
             int many = people;
             for (int i = 0; i < depth; i++) {
@@ -1179,10 +1210,11 @@ public final class QuickestOut {
 
         /** Tries turns, the first of equals ahead, so that only a quicker one counts. */
         boolean findTurn() {
-            startAsItIs();
-            int asItIs = quick;
-            for (int size = 1; size <= MOST_LANES && quick > 0; size++) {
-                for (int tried = 0; tried < 2 * town.roads; tried++) {
+            int asItIs = network.soonest();
+            quick = asItIs;
+            findNarrow();
+            for (int size = 1; size <= MOST_LANES; size++) {
+                for (int tried = 0; tried < 2 * town.roads && quick > 0; tried++) {
                     if (tryTurn(tried / 2, tried % 2 == 0 ? size : -size)) {
                         findNarrow();
                     }
@@ -1196,7 +1228,7 @@ public final class QuickestOut {
                 return false;
             }
             town.shiftLanes(tried, lanes);
-            int found = network.soonerThan(quick);
+            int found = network.allSafeBy(quick - 1) ? network.soonestWithin(0, quick) : quick;
             town.shiftLanes(tried, -lanes);
             if (found == quick) {
                 return false;
@@ -1211,7 +1243,8 @@ public final class QuickestOut {
         void findRow(int set) {
             int rows = choose(set);
             row = 0;
-            startAsItIs();
+            quick = network.soonest();
+            findNarrow();
             for (int notZero = 1; notZero <= chosen; notZero++) {
                 for (int tried = 1; tried < rows && quick > 0; tried++) {
                     if (digitsNotZero(tried) == notZero && tryRow(tried)) {
@@ -1254,7 +1287,10 @@ public final class QuickestOut {
                 more += turnAll(roadsOfSet[i], rest % 3);
                 rest /= 3;
             }
-            int found = more < tooMany ? quick : network.soonerThan(quick);
+            int found = quick;
+            if (more >= tooMany && network.allSafeBy(quick - 1)) {
+                found = network.soonestWithin(0, quick);
+            }
             System.arraycopy(lanesBefore, 0, town.lanes, 0, WAYS);
             if (found == quick) {
                 return false;
@@ -1272,13 +1308,6 @@ public final class QuickestOut {
             int lanes = digit == 1 ? town.lanes[2 * turnedRoad + 1] : -town.lanes[2 * turnedRoad];
             town.shiftLanes(turnedRoad, lanes);
             return network.crossingMore(turnedRoad, lanes);
-        }
-
-        private void startAsItIs() {
-            road = NONE;
-            k = 0;
-            quick = network.soonest();
-            findNarrow();
         }
 
         /** From now on only what is quicker counts; what can't get through the narrow is not tried. */
