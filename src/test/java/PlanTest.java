@@ -231,6 +231,13 @@ public final class PlanTest {
         y.move(1, 1, false, 1);
         check.due("wrong(): first minute", 3 + 16, y.wrong());
         planned(y, 0, -1, 1, 0, 1);
+        y.back(2);
+        y.set(2, 0, 1);
+        y.road(2, 0, 1, 1, 0);
+        y.move(0, 0, false, 1);
+        y.move(0, 2, false, 1);
+        check.due("wrong(): place 0 is the least", 3, y.wrong());
+        planned(y, 0, -1, 0, 1, 2);
     }
 
     private static void farEnd() {

@@ -4,6 +4,7 @@ public final class TextTest {
 
     public static void main(String[] args) {
         tape();
+        longest();
         statements();
         tokens();
         cannotStand();
@@ -36,12 +37,49 @@ public final class TextTest {
         check.due("tell() of nothing", 0, x.tell());
         check.due("no fault then", 0, x.fault());
 
+        // What end() has cut off counts no more.
+        Check.feed(x, "place -1 9 9 9;");
+        x.end(7);
+        check.due("a - with a digit cut off", -1, x.tell());
+        check.due("fault at the -", 1 + 8 * 6, x.fault());
+        Check.feed(x, "place 1 9 9 99;");
+        x.end(14);
+        Check.feed(x, ";");
+        check.due("a text cut and mended", 1, x.tell());
+        Check.feed(x, "place 1 9 9 999");
+        x.end(13);
+        check.due("a text cut in a number", -1, x.tell());
+        check.due("fault at its end", 1 + 8 * 13, x.fault());
+        x = new QuickestOut();
+
         // The highest byte of each number comes first, and a text may come in parts.
         Check.feed(x, "place 1 ");
         Check.feed(x, "2 3 4;");
         check.due("in parts", 14, x.count(3));
         check.due("told", 1, x.tell());
         check.due("of(0, 3)", 4, x.of(0, 3));
+    }
+
+    /** Texts of 400 bytes, with this at their end. */
+    private static void longest() {
+        String[] ends = {"place", "place -", "place 60", "place 60 ", "place -6", "place 6000", "place 1 1 1 1;"};
+        int[] due = {1 + 8 * 400, 1 + 8 * 399, 1 + 8 * 400, 1 + 8 * 400, 2 + 8 * 398, 1 + 8 * 396, 0};
+        for (int i = 0; i < ends.length; i++) {
+            QuickestOut x = new QuickestOut();
+            String text = " ".repeat(400 - ends[i].length()) + ends[i];
+            check.due("tell of 400 bytes to '" + ends[i] + "'", due[i] == 0 ? 1 : -1, Check.tell(x, text));
+            check.due("fault of 400 bytes to '" + ends[i] + "'", due[i], x.fault());
+        }
+        QuickestOut x = new QuickestOut();
+        check.due("tell of 400 statements at most", -1, Check.tell(x, ";".repeat(400)));
+        x.place(0, 0, 0, 0);
+        x.place(0, 0, 0, 0);
+        x.road(0, 1, 1, 1, 1);
+        StringBuilder many = new StringBuilder();
+        for (int i = 0; i < 22; i++) {
+            many.append("turn0 1;turn0-1;");
+        }
+        check.due("tell of many statements", 44, Check.tell(x, many.toString()));
     }
 
     private static void statements() {
@@ -100,6 +138,14 @@ public final class TextTest {
         fault("5;", 1, 0);
         fault("places 1 1 1 1;", 1, 0);
         fault("plac 1 1 1 1;", 1, 0);
+        fault("xlace 1 1 1 1;", 1, 0);
+        fault("placx 1 1 1 1;", 1, 0);
+        fault("placez 1 1 1 1;", 1, 0);
+        fault("zplace 1 1 1 1;", 1, 0);
+        fault("place`1 1 1 1;", 1, 5);
+        fault("place{1 1 1 1;", 1, 5);
+        fault("place/1 1 1 1;", 1, 5);
+        fault("place:1 1 1 1;", 1, 5);
         fault("Place 1 1 1 1;", 1, 0);
         fault("there", 1, 0);
         fault("\u00ff", 1, 0);

@@ -170,6 +170,11 @@ public final class WouldBeTest {
         check.due("a number is ahead of NONE", 4, x.bestTurn(0));
         check.due("k", 3, x.bestTurn(2));
         stays(x, -1, 0, 3);
+        QuickestOut all = simple(9, 9);
+        all.set(0, 0, 18);
+        all.turn(0, -9);
+        check.due("all 18 lanes", 1, all.bestTurn(0));
+        check.due("k", 18, all.bestTurn(2));
         QuickestOut y = simple(0, 3);
         y.set(1, 1, 11);
         check.due("NONE by every turn", -2, y.bestTurn(0));
