@@ -94,7 +94,7 @@ public final class FaceTest {
         String code = text.replaceAll("(?s)/\\*.*?\\*/", "").replaceAll("//[^\\n]*", "").replaceAll("\"[^\"\\n]*\"", "\"\"");
         String[] never = {"->", "::", "\\btry\\b", "\\bcatch\\b", "\\bfinally\\b", "\\bsynchronized\\b", "\\bassert\\b",
             "Exact\\b", "static \\{", "\\bpackage\\b", "\\bprotected\\b", "\\bdouble\\b", "\\bfloat\\b", "\\bequals\\b",
-            "\\bhashCode\\b", "\\btoString\\b", "\\bhandle\\b", "\\bRandom\\b", "\\bcurrentTimeMillis\\b", "\\bnanoTime\\b",
+            "\\bhashCode\\b", "\\btoString\\b", "\\bRandom\\b", "\\bcurrentTimeMillis\\b", "\\bnanoTime\\b",
             "\\bThread\\b", "\\bvar\\b", "while \\(true\\)", "for \\(;;\\)", "\"\" \\+", "\\+ \"\""};
         for (String word : never) {
             check.due("'" + word + "' stands in the class", false, Pattern.compile(word).matcher(code).find());
