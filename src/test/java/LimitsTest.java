@@ -7,6 +7,8 @@ import java.util.Random;
 public final class LimitsTest {
     private static final Check check = new Check();
     private static final int NEVER = 41;
+    /** In these towns a cut counted a little wrong would hide the best turns. */
+    private static final int[] NARROW = {2044, 3728};
 
     private final Random random;
     private final int seed;
@@ -25,13 +27,20 @@ public final class LimitsTest {
         fullest();
         fullPlan();
         for (int seed = 0; seed < runs; seed++) {
-            LimitsTest town = new LimitsTest(seed);
-            town.soon();
-            town.roads();
-            town.places();
-            town.turns();
+            compare(seed);
+        }
+        for (int seed : NARROW) {
+            compare(seed);
         }
         check.end("LimitsTest");
+    }
+
+    private static void compare(int seed) {
+        LimitsTest town = new LimitsTest(seed);
+        town.soon();
+        town.roads();
+        town.places();
+        town.turns();
     }
 
     private void due(String call, long want, long got) {
