@@ -6,6 +6,7 @@ public final class EdgeToldTest {
 
     public static void main(String[] args) {
         newObject();
+        lastCall();
         placeRanges();
         placesAtMost();
         roadEnds();
@@ -42,6 +43,20 @@ public final class EdgeToldTest {
         edge.due("moved(0, 0)", -1, x.moved(0, 0));
         edge.due("the first place", 0, x.place(1, 1, 1, 1));
         edge.due("the other has its own", 8, before.count(0));
+    }
+
+    private static void lastCall() {
+        edge.says("What it is: an object is used for at most 512 calls");
+        QuickestOut x = Edge.few();
+        int calls = 8;
+        // Every other call is refused or takes back what the one ahead of it did.
+        for (; calls < 510; calls += 2) {
+            edge.due("call " + calls, calls % 4 == 0 ? 1 : 0, Edge.bit(x.turn(0, calls % 4 == 0 ? 1 : 2)));
+            edge.due("call " + (calls + 1), calls % 4 == 0, x.turn(0, calls % 4 == 0 ? -1 : -4));
+        }
+        edge.due("made so far", 510, calls);
+        edge.due("call 511", 3, Check.along(x, 0, 3));
+        edge.due("call 512", 49, x.safe(40));
     }
 
     // ---- Promise 6: place

@@ -17,6 +17,7 @@ public final class EdgeWouldBeTest {
         turnsAtMostFour();
         turnsNoneSuch();
         turnsRows();
+        turnsAboveNine();
         turnsOfSeveral();
         turnsOneByOne();
         turnsAheadOfNone();
@@ -335,6 +336,25 @@ public final class EdgeWouldBeTest {
         asked("THERE and BACK", mixed, 3 + 2, x -> x.turns(5, 1));
         asked("the least row of three such", mixed, 3 + 2, x -> x.turns(7, 1));
         asked("without the last one", mixed, 3 + 1, x -> x.turns(3, 1));
+    }
+
+    private static void turnsAboveNine() {
+        edge.says("Term 2: all LANES THERE, or all BACK (they may be above 9)");
+        asked("18 LANES THERE", () -> simple(18, 9, 9), 1, x -> x.turns(1, 0));
+        asked("18 LANES THERE, one more", () -> simple(19, 9, 9), 2, x -> x.turns(1, 0));
+        asked("its row", () -> simple(18, 9, 9), 1, x -> x.turns(1, 1));
+        Edge.Maker back = () -> {
+            QuickestOut x = new QuickestOut();
+            x.place(0, 300, 0, 0);
+            x.place(18, 0, 0, 0);
+            x.road(0, 1, 1, 9, 9);
+            return x;
+        };
+        asked("18 LANES BACK", back, 1, x -> x.turns(1, 0));
+        asked("its row", back, 2, x -> x.turns(1, 1));
+        edge.says("Term 2: all LANES THERE, where they are so already, is as it is");
+        asked("its row", EdgeWouldBeTest::eighteen, 0, x -> x.turns(1, 1));
+        asked("QUICKEST", EdgeWouldBeTest::eighteen, 2, x -> x.turns(1, 0));
     }
 
     private static void turnsOfSeveral() {
