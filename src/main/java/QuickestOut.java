@@ -1114,7 +1114,7 @@ public final class QuickestOut {
             toSink[SINK] = 0;
             row[0] = SINK;
             int found = 1;
-            for (int i = 0; i < found && toSink[SOURCE] == NONE; i++) {
+            for (int i = 0; i < NODES && i < found && toSink[SOURCE] == NONE; i++) {
                 int node = row[i];
                 int arc = first[node];
                 for (int n = 0; n < ARCS && arc != NONE; n++) {

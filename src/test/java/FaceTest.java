@@ -89,7 +89,7 @@ public final class FaceTest {
         }
     }
 
-    /** Rules 2 to 4, 6 and 11, by the words in the text. */
+    /** Rules 2 to 4, 6, 9 and 11, by the words in the text. */
     private static void text(String text) {
         String code = text.replaceAll("(?s)/\\*.*?\\*/", "").replaceAll("//[^\\n]*", "").replaceAll("\"[^\"\\n]*\"", "\"\"");
         String[] never = {"->", "::", "\\btry\\b", "\\bcatch\\b", "\\bfinally\\b", "\\bsynchronized\\b", "\\bassert\\b",
@@ -109,26 +109,95 @@ public final class FaceTest {
                 check.due("sign " + (int) text.charAt(i) + " stands in the class", 0, 1);
             }
         }
-        lengths(text.split("\n"));
+        List<Found> methods = methods(text.split("\n"));
+        check.due("methods are found", true, methods.size() > 2 * FACE.length);
+        for (Found m : methods) {
+            check.due(m.name + " has sixty lines at most", true, m.lines.size() <= 60);
+            loops(m);
+            check.due(m.name + " goes eight deep at most", true, depth(m.name, methods, 1) <= 8);
+        }
+    }
+
+    /** A method as it stands in the text. */
+    private static final class Found {
+        final String name;
+        final List<String> lines = new ArrayList<>();
+
+        Found(String name) {
+            this.name = name;
+        }
     }
 
     /** By the way the file is laid out: a method starts with its opening line and ends with as deep a brace. */
-    private static void lengths(String[] lines) {
+    private static List<Found> methods(String[] lines) {
         Pattern opening = Pattern.compile("^( {4}| {8})(?:(?:public|private|static|int|boolean|void) )*"
-            + "\\w+\\((?:int|boolean|String|Town|\\)).*\\{$");
-        int methods = 0;
+            + "(\\w+)\\((?:int|boolean|String|Town|\\)).*\\{$");
+        List<Found> methods = new ArrayList<>();
         for (int i = 0; i < lines.length; i++) {
             Matcher m = opening.matcher(lines[i]);
             if (m.find()) {
-                String end = m.group(1) + "}";
+                Found found = new Found(m.group(2));
                 int j = i;
-                while (j < lines.length && !lines[j].equals(end)) {
+                while (j < lines.length && !lines[j].equals(m.group(1) + "}")) {
+                    found.lines.add(lines[j].replaceAll("//.*", ""));
                     j++;
                 }
-                methods++;
-                check.due("the method in line " + (i + 1) + " has sixty lines at most", true, j - i < 60);
+                methods.add(found);
             }
         }
-        check.due("methods are found", true, methods > 2 * FACE.length);
+        return methods;
+    }
+
+    /** Rule 9: each loop has a counter against a bound, and nothing in it changes the bound. */
+    private static void loops(Found method) {
+        for (int i = 0; i < method.lines.size(); i++) {
+            String head = method.lines.get(i);
+            Matcher loop = Pattern.compile("^( *)(for \\(int (\\w+) = [^;]*; (.*); [^;]*|while \\((.*))\\) \\{$").matcher(head);
+            boolean isLoop = loop.matches();
+            check.due(method.name + ": a loop that is not known: " + head, isLoop, head.matches(" *(for|while|do)\\b.*"));
+            if (isLoop) {
+                StringBuilder body = new StringBuilder();
+                for (int j = i + 1; !method.lines.get(j).equals(loop.group(1) + "}"); j++) {
+                    body.append(method.lines.get(j)).append('\n');
+                }
+                String until = loop.group(3) == null ? loop.group(5) : loop.group(4);
+                check.due(method.name + ": the end is seen of " + head.trim(), true, hasBound(loop.group(3), until, body.toString()));
+            }
+        }
+    }
+
+    private static boolean hasBound(String counter, String until, String body) {
+        for (String part : until.split(" && ")) {
+            Matcher m = Pattern.compile("(\\w+)(?: \\+ \\w+)? (<|<=|>=) ([^()]+|word\\.length\\(\\))").matcher(part);
+            if (m.matches() && !changes(m.group(3), body)
+                    && (counter == null ? body.contains(m.group(1) + "++;") : m.group(1).equals(counter) && !changes(counter, body))) {
+                return true;
+            }
+        }
+        return false;
+    }
+
+    private static boolean changes(String bound, String body) {
+        for (String name : bound.split("\\W+")) {
+            if (name.matches("[a-z]\\w*") && Pattern.compile("\\b" + name + "( [-+*/]?= |\\+\\+|--)").matcher(body).find()) {
+                return true;
+            }
+        }
+        return false;
+    }
+
+    /** Rule 11: how many calls stand open at most, that of the method and those of the library counted. */
+    private static int depth(String name, List<Found> methods, int above) {
+        int most = 1;
+        for (Found m : methods) {
+            if (m.name.equals(name) && above <= 20) {
+                Matcher calls = Pattern.compile("(new )?\\b([a-zA-Z]\\w*)\\(").matcher(
+                    String.join("\n", m.lines.subList(1, m.lines.size())).replaceAll("\"[^\"\\n]*\"", "\"\""));
+                while (calls.find()) {
+                    most = Math.max(most, 1 + depth(calls.group(2), methods, above + 1));
+                }
+            }
+        }
+        return most;
     }
 }
