@@ -3,6 +3,7 @@ import java.util.NoSuchElementException;
 
 /** All are to leave, the last one as soon as can be: README.md tells how to use it. */
 public final class QuickestOut {
+    /** There is none. */
     public static final int NONE = -1;
 
     private static final int NO_SUCH = -2;
@@ -196,7 +197,7 @@ public final class QuickestOut {
         return minutes;
     }
 
-    // ---- what would be
+    // ---- what would be (QUICKEST then; NONE: by none; -2: there are none such)
 
     public int shut(int road) {
         return town.hasRoad(road) ? told(soonestWithout(road, 0)) : NO_SUCH;
